@@ -40,15 +40,15 @@ public final class ShardedMap {
 
     private final int[] memory = new int[ALL_CELLS];
     private final int[] written = new int[ALL_CELLS];
-    private final int[] home = new int[CLASSES];
-    private final int[] holder = new int[CLASSES];
+    private final int[] homeOf = new int[CLASSES];
+    private final int[] holderOf = new int[CLASSES];
     // How many cells of the part the home has from the holder; 0 while the home is the holder.
-    private final int[] copied = new int[CLASSES];
+    private final int[] copiedOf = new int[CLASSES];
 
     public ShardedMap() {
         for (int class_ = 0; class_ < CLASSES; class_++) {
-            home[class_] = class_ & GROUP_MASK;
-            holder[class_] = class_ & GROUP_MASK;
+            homeOf[class_] = class_ & GROUP_MASK;
+            holderOf[class_] = class_ & GROUP_MASK;
         }
     }
 
@@ -97,18 +97,18 @@ public final class ShardedMap {
 
     public int assign(int class_, int group) {
         int part = class_ & CLASS_MASK;
-        int before = home[part];
+        int before = homeOf[part];
         int after = group & GROUP_MASK;
         if (after != before) {
             // What the old home has of the part may grow stale from now on: nobody keeps it fresh.
-            copied[part] = 0;
-            home[part] = after;
+            copiedOf[part] = 0;
+            homeOf[part] = after;
         }
         return before;
     }
 
     public int home(int class_) {
-        return home[class_ & CLASS_MASK];
+        return homeOf[class_ & CLASS_MASK];
     }
 
     public void work(int steps) {
@@ -129,8 +129,8 @@ public final class ShardedMap {
         }
         // Cells that came for a part still on its way here were in memory alone: they come again.
         for (int class_ = 0; class_ < CLASSES; class_++) {
-            if (home[class_] == lost) {
-                copied[class_] = 0;
+            if (homeOf[class_] == lost) {
+                copiedOf[class_] = 0;
             }
         }
     }
@@ -180,23 +180,23 @@ public final class ShardedMap {
     }
 
     private int load(int class_, int cell) {
-        return memory[firstCell(holder[class_], class_) + cell];
+        return memory[firstCell(holderOf[class_], class_) + cell];
     }
 
     private void store(int class_, int cell, int value) {
-        int at = firstCell(holder[class_], class_) + cell;
+        int at = firstCell(holderOf[class_], class_) + cell;
         written[at] = value;
         memory[at] = value;
         // The home has this cell already and would not be sent it again.
-        if (cell < copied[class_]) {
-            int copy = firstCell(home[class_], class_) + cell;
+        if (cell < copiedOf[class_]) {
+            int copy = firstCell(homeOf[class_], class_) + cell;
             memory[copy] = value;
         }
     }
 
     private int classToMove() {
         for (int class_ = 0; class_ < CLASSES; class_++) {
-            if (holder[class_] != home[class_]) {
+            if (holderOf[class_] != homeOf[class_]) {
                 return class_;
             }
         }
@@ -204,22 +204,22 @@ public final class ShardedMap {
     }
 
     private void moveOneStep(int class_) {
-        int cell = copied[class_];
-        if (cell == CELLS) {
+        int cell = copiedOf[class_];
+        if (cell >= CELLS) {
             takeOver(class_);
             return;
         }
-        int copy = firstCell(home[class_], class_) + cell;
+        int copy = firstCell(homeOf[class_], class_) + cell;
         memory[copy] = load(class_, cell);
-        copied[class_] = cell + 1;
+        copiedOf[class_] = cell + 1;
     }
 
     private void takeOver(int class_) {
-        int first = firstCell(home[class_], class_);
+        int first = firstCell(homeOf[class_], class_);
         for (int cell = 0; cell < CELLS; cell++) {
             written[first + cell] = memory[first + cell];
         }
-        holder[class_] = home[class_];
-        copied[class_] = 0;
+        holderOf[class_] = homeOf[class_];
+        copiedOf[class_] = 0;
     }
 }

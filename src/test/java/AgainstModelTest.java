@@ -3,12 +3,13 @@ import java.util.Map;
 import java.util.Random;
 
 /**
- * Runs of 512 calls with fixed seeds, each call also made on a plain map that knows no groups:
- * whatever moves and crashes come between, the answers must be the same.
+ * Runs with fixed seeds, each call also made on a plain map that knows no groups: whatever moves and
+ * crashes come between, the answers must be the same.
  */
 public final class AgainstModelTest {
     private static final int RUNS = 20000;
-    private static final int CALLS = 512;
+    // With the questions at the end of a run, an object stays below its 512 calls.
+    private static final int CALLS = 410;
     private static final int[] EDGES = {
         Integer.MIN_VALUE, Integer.MIN_VALUE + 1, -33, -32, -2, -1, 0, 1, 31, 32, Integer.MAX_VALUE - 1, Integer.MAX_VALUE
     };

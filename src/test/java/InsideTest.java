@@ -28,9 +28,9 @@ public final class InsideTest {
             map.assign(2, 3);
             map.assign(7, 1);
             map.work(steps);
-            Due.is("holder of 2 after " + steps, array(map, "holder")[2], steps < MOVE ? 2 : 3);
-            Due.is("holder of 7 after " + steps, array(map, "holder")[7], steps < 2 * MOVE ? 3 : 1);
-            Due.is("copied of 2 after " + steps, array(map, "copied")[2], steps < MOVE ? steps : 0);
+            Due.is("holder of 2 after " + steps, array(map, "holderOf")[2], steps < MOVE ? 2 : 3);
+            Due.is("holder of 7 after " + steps, array(map, "holderOf")[7], steps < 2 * MOVE ? 3 : 1);
+            Due.is("copied of 2 after " + steps, array(map, "copiedOf")[2], steps < MOVE ? steps : 0);
         }
     }
 
@@ -44,7 +44,7 @@ public final class InsideTest {
         map.work(0);
         map.work(-1);
         map.work(Integer.MIN_VALUE);
-        Due.is("no steps", array(map, "copied")[1], 0);
+        Due.is("no steps", array(map, "copiedOf")[1], 0);
     }
 
     private static void oldHolderIsNotNeeded() throws ReflectiveOperationException {
@@ -77,37 +77,37 @@ public final class InsideTest {
     private static void loseOfTheHomeBeginsAnew() throws ReflectiveOperationException {
         ShardedMap map = moving();
         map.lose(2);
-        Due.is("home lost: copied", array(map, "copied")[1], 0);
+        Due.is("home lost: copied", array(map, "copiedOf")[1], 0);
         map.work(MOVE - 1);
-        Due.is("home lost: holder", array(map, "holder")[1], 1);
+        Due.is("home lost: holder", array(map, "holderOf")[1], 1);
         map.work(1);
-        Due.is("home lost: holder at the end", array(map, "holder")[1], 2);
+        Due.is("home lost: holder at the end", array(map, "holderOf")[1], 2);
         Due.is("home lost: get", map.get(1), 11);
     }
 
     private static void loseOfTheHolderGoesOn() throws ReflectiveOperationException {
         ShardedMap map = moving();
         map.lose(1);
-        Due.is("holder lost: copied", array(map, "copied")[1], CELLS);
+        Due.is("holder lost: copied", array(map, "copiedOf")[1], CELLS);
         map.work(1);
-        Due.is("holder lost: holder", array(map, "holder")[1], 2);
+        Due.is("holder lost: holder", array(map, "holderOf")[1], 2);
         Due.is("holder lost: get", map.get(1), 11);
     }
 
     private static void assignElsewhereBeginsAnew() throws ReflectiveOperationException {
         ShardedMap map = moving();
         map.assign(1, 3);
-        Due.is("elsewhere: copied", array(map, "copied")[1], 0);
+        Due.is("elsewhere: copied", array(map, "copiedOf")[1], 0);
         map.assign(1, 1);
         map.work(100);
-        Due.is("back: copied", array(map, "copied")[1], 0);
+        Due.is("back: copied", array(map, "copiedOf")[1], 0);
         Due.is("back: get", map.get(1), 11);
     }
 
     private static void assignToTheSameHomeGoesOn() throws ReflectiveOperationException {
         ShardedMap map = moving();
         map.assign(1, 2);
-        Due.is("the same home: copied", array(map, "copied")[1], CELLS);
+        Due.is("the same home: copied", array(map, "copiedOf")[1], CELLS);
     }
 
     /** Class 1 on its way from group 1 to group 2, with all cells copied and not yet taken over. */

@@ -28,6 +28,7 @@ public final class LanguageTest {
         methods();
         fields();
         text();
+        noCallThrows();
         Due.end();
     }
 
@@ -89,5 +90,27 @@ public final class LanguageTest {
         Matcher made = Pattern.compile("\\bnew\\b").matcher(code);
         Matcher inField = Pattern.compile("private final \\w+\\[\\] \\w+ = new \\w+\\[\\w+\\];").matcher(code);
         Due.is("arrays made elsewhere than in a field", made.results().count(), inField.results().count());
+    }
+
+    /** Rule 7 holds after the 512th call too, where the answers are free. */
+    private static void noCallThrows() {
+        ShardedMap map = new ShardedMap();
+        int[] any = {Integer.MIN_VALUE, -9, -1, 0, 1, 3, 4, 7, 8, 20, 31, 32, Integer.MAX_VALUE};
+        for (int round = 0; round < 2000; round++) {
+            int one = any[round % any.length];
+            int two = any[round / 3 % any.length];
+            int three = any[round / 7 % any.length];
+            map.put(one, round, two, three);
+            map.addTo(two, three, one, round);
+            map.remove(three, two, one);
+            map.get(one);
+            map.has(two);
+            map.size(three);
+            map.lastFrom(one);
+            map.assign(two, three);
+            map.home(one);
+            map.work(two);
+            map.lose(three);
+        }
     }
 }

@@ -194,7 +194,7 @@ public final class PromisesTest {
         Due.is("P10 home MIN", map.home(MIN), 3);
         Due.is("P10 home MAX", map.home(MAX), 3);
         Due.is("P10 home 1", map.home(1), 1);
-        Due.is("P10 home -1", map.home(-2), 2);
+        Due.is("P10 home -2", map.home(-2), 2);
     }
 
     private static void work() {
