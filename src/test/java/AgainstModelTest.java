@@ -8,8 +8,8 @@ import java.util.Random;
  */
 public final class AgainstModelTest {
     private static final int RUNS = 20000;
-    // With the questions at the end of a run, an object stays below its 512 calls.
-    private static final int CALLS = 410;
+    // With the 96 calls at the end of a run, an object comes to its 512 calls and no more.
+    private static final int CALLS = 512 - 96;
     private static final int[] EDGES = {
         Integer.MIN_VALUE, Integer.MIN_VALUE + 1, -33, -32, -2, -1, 0, 1, 31, 32, Integer.MAX_VALUE - 1, Integer.MAX_VALUE
     };
@@ -133,9 +133,9 @@ public final class AgainstModelTest {
         }
         for (int who = 0; who < 32; who++) {
             int[] last = remembered.get(who);
-            if (last != null) {
-                Due.is(when + "remembered " + who, map.remove(who & 3, last[0], who >> 2), last[1]);
-            }
+            int number = last == null ? Integer.MIN_VALUE : last[0];
+            int want = request(2, who & 3, number, who >> 2, 0);
+            Due.is(when + "remembered " + who, map.remove(who & 3, number, who >> 2), want);
         }
     }
 

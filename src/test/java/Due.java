@@ -1,3 +1,5 @@
+import java.util.List;
+
 /** Compares answers with the ones that are due; every test of the project counts its faults here. */
 final class Due {
     private static int wrong = 0;
@@ -14,6 +16,17 @@ final class Due {
 
     static void is(String what, boolean got, boolean want) {
         is(what, got ? 1L : 0L, want ? 1L : 0L);
+    }
+
+    /** Two lists of calls with their answers; the calls are the same, so that the rows stand side by side. */
+    static void same(String when, List<String> got, List<String> want) {
+        is(when + ": number of calls", got.size(), want.size());
+        for (int row = 0; row < got.size() && row < want.size(); row++) {
+            if (!got.get(row).equals(want.get(row))) {
+                wrong++;
+                System.out.println(when + ": " + got.get(row) + ", due is " + want.get(row));
+            }
+        }
     }
 
     static boolean allRight() {
