@@ -21,6 +21,7 @@ public final class PlaceBoundariesTest {
         assignWithAnyArguments();
         assignTheHomeThatItHas();
         assignBackAndForth();
+        assignElsewhereOnTheWay();
         homeWithAnyArgument();
         homeIsTheLastAssigned();
         workChangesNoAnswer();
@@ -89,9 +90,11 @@ public final class PlaceBoundariesTest {
         for (int key = 5; key < 32; key += 8) {
             rows.add("get " + key + " = " + map.get(key) + ", has = " + map.has(key));
         }
-        for (int client = 0; client < 4; client++) {
-            rows.add("repeated by " + client + " = " + map.addTo(client, 18 + client, 5, 1));
-            rows.add("old of " + client + " = " + map.addTo(client, 17 + client, 5, 1));
+        // Rising numbers: the answer is OLD, then the remembered one, then that of a new request.
+        for (int number = 0; number < SCRIPT; number++) {
+            for (int client = 0; client < 4; client++) {
+                rows.add("number " + number + " of " + client + " = " + map.addTo(client, number, 5, 1));
+            }
         }
         return rows;
     }
@@ -167,6 +170,31 @@ public final class PlaceBoundariesTest {
                 Due.is(when + ": at last", map.get(6), 111);
                 Due.is(when + ": remembered", map.remove(0, 2, 6), 119);
                 Due.is(when + ": old", map.remove(0, 1, 6), -1);
+            }
+        }
+    }
+
+    /** To a third group before the part has come to the second, and from there to the second after all. */
+    private static void assignElsewhereOnTheWay() {
+        for (int steps = 0; steps < 24; steps++) {
+            for (int more = 0; more < 24; more++) {
+                ShardedMap map = Asked.filled();
+                String when = "on the way " + steps + ", elsewhere " + more;
+                Due.is(when + ": away", map.assign(6, 1), 2);
+                map.work(steps);
+                Due.is(when + ": elsewhere", map.assign(6, 3), 1);
+                Due.is(when + ": request", map.addTo(0, 1, 6, 5), 111);
+                map.work(more);
+                Due.is(when + ": again", map.addTo(0, 1, 6, 5), 111);
+                Due.is(when + ": after all", map.assign(6, 1), 3);
+                Due.is(when + ": remove", map.remove(1, 1, 30), 130);
+                map.work(MAX);
+                Due.is(when + ": at last", map.get(6), 111);
+                Due.is(when + ": as it was", map.get(14), 114);
+                Due.is(when + ": removed", map.has(30), false);
+                Due.is(when + ": remembered", map.addTo(0, 1, 6, 5), 111);
+                Due.is(when + ": remembered of another", map.addTo(1, 1, 6, 5), 130);
+                Due.is(when + ": remembered of old", map.addTo(3, Asked.LAST, 6, 5), 130);
             }
         }
     }

@@ -131,7 +131,7 @@ public final class QuestionBoundariesTest {
     private static void sizeOutsideOfRange() {
         ShardedMap map = new ShardedMap();
         for (int key = 0; key < 32; key++) {
-            // Neighbouring classes have different sizes, so that a wrong class is seen.
+            // The classes 1 apart, and c and -c, have different sizes, so that a wrong class is seen.
             if ((key >> 3) < sizeGiven(key & 7)) {
                 map.put(0, key, key, 1);
             }
@@ -144,7 +144,7 @@ public final class QuestionBoundariesTest {
     }
 
     private static int sizeGiven(int class_) {
-        return class_ <= 4 ? class_ : 8 - class_;
+        return class_ % 5;
     }
 
     /** "-1 if there is none." */

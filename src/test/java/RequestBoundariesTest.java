@@ -342,7 +342,12 @@ public final class RequestBoundariesTest {
         Due.is(when + ", get", map.get(key), kind == REMOVE ? 0 : operand);
         Due.is(when + ", size", map.size(key & 7), kind == REMOVE ? 0 : 1);
         Due.is(when + ", lastFrom", map.lastFrom(MIN), kind == REMOVE ? -1 : key);
-        Due.is(when + ", again", Asked.request(map, kind, 0, 1, key, 4), kind == ADD ? operand : 0);
+        // It counts as carried out, even where it had nothing to remove.
+        for (int again = 0; again < KINDS.length; again++) {
+            Due.is(when + ", again", Asked.request(map, again, 0, 1, key, 4), kind == ADD ? operand : 0);
+        }
+        Due.is(when + ", has after again", map.has(key), kind != REMOVE);
+        Due.is(when + ", get after again", map.get(key), kind == REMOVE ? 0 : operand);
     }
 
     /** The value 0 is a value: only remove takes the key away. */
