@@ -15,6 +15,7 @@ public final class InsideTest {
         nothingToDo();
         oldHolderIsNotNeeded();
         loseStartsFromWhatIsWritten();
+        loseOutsideOfRange();
         loseOfTheHomeBeginsAnew();
         loseOfTheHolderGoesOn();
         assignElsewhereBeginsAnew();
@@ -70,6 +71,23 @@ public final class InsideTest {
             map.lose(group);
             for (int key = 0; key < 32; key++) {
                 Due.is("group " + group + " get " + key, map.get(key), key + 1);
+            }
+        }
+    }
+
+    /** "the group group & 3": that group and no other. */
+    private static void loseOutsideOfRange() throws ReflectiveOperationException {
+        for (int base : new int[] {Integer.MIN_VALUE, -1024, -8, -4, 0, 4, 8, 1024, Integer.MAX_VALUE - 3}) {
+            for (int group = 0; group < 4; group++) {
+                ShardedMap map = new ShardedMap();
+                for (int other = 0; other < 4; other++) {
+                    spoil(array(map, "memory"), other);
+                }
+                map.lose(base + group);
+                for (int other = 0; other < 4; other++) {
+                    int want = other == group ? 0 : -999;
+                    Due.is("lose " + (base + group) + ", group " + other, array(map, "memory")[other * GROUP_CELLS], want);
+                }
             }
         }
     }
