@@ -12,7 +12,9 @@ public final class InsideTest {
 
     public static void main(String[] args) throws ReflectiveOperationException {
         stepsAreCounted();
+        everyClassMoves();
         nothingToDo();
+        answersComeFromMemory();
         oldHolderIsNotNeeded();
         loseStartsFromWhatIsWritten();
         loseOutsideOfRange();
@@ -35,6 +37,20 @@ public final class InsideTest {
         }
     }
 
+    private static void everyClassMoves() throws ReflectiveOperationException {
+        for (int steps = 0; steps <= 8 * MOVE + 1; steps++) {
+            ShardedMap map = new ShardedMap();
+            for (int class_ = 0; class_ < 8; class_++) {
+                map.assign(class_, class_ + 1);
+            }
+            map.work(steps);
+            for (int class_ = 0; class_ < 8; class_++) {
+                int want = steps < (class_ + 1) * MOVE ? class_ & 3 : (class_ + 1) & 3;
+                Due.is("all move: holder of " + class_ + " after " + steps, array(map, "holderOf")[class_], want);
+            }
+        }
+    }
+
     private static void nothingToDo() throws ReflectiveOperationException {
         ShardedMap map = new ShardedMap();
         map.put(0, 1, 1, 1);
@@ -46,6 +62,14 @@ public final class InsideTest {
         map.work(-1);
         map.work(Integer.MIN_VALUE);
         Due.is("no steps", array(map, "copiedOf")[1], 0);
+    }
+
+    private static void answersComeFromMemory() throws ReflectiveOperationException {
+        ShardedMap map = new ShardedMap();
+        map.put(0, 1, 1, 11);
+        spoil(array(map, "written"), 1);
+        Due.is("get with spoilt writing", map.get(1), 11);
+        Due.is("put again with spoilt writing", map.put(0, 1, 1, 12), 0);
     }
 
     private static void oldHolderIsNotNeeded() throws ReflectiveOperationException {
@@ -86,7 +110,10 @@ public final class InsideTest {
                 map.lose(base + group);
                 for (int other = 0; other < 4; other++) {
                     int want = other == group ? 0 : -999;
-                    Due.is("lose " + (base + group) + ", group " + other, array(map, "memory")[other * GROUP_CELLS], want);
+                    String when = "lose " + (base + group) + ", group " + other;
+                    for (int cell = 0; cell < GROUP_CELLS; cell++) {
+                        Due.is(when + ", cell " + cell, array(map, "memory")[other * GROUP_CELLS + cell], want);
+                    }
                 }
             }
         }
@@ -123,9 +150,11 @@ public final class InsideTest {
     }
 
     private static void assignToTheSameHomeGoesOn() throws ReflectiveOperationException {
-        ShardedMap map = moving();
-        map.assign(1, 2);
-        Due.is("the same home: copied", array(map, "copiedOf")[1], CELLS);
+        for (int group : new int[] {2, 6, -2, Integer.MIN_VALUE + 2}) {
+            ShardedMap map = moving();
+            map.assign(1, group);
+            Due.is("the same home as " + group + ": copied", array(map, "copiedOf")[1], CELLS);
+        }
     }
 
     /** Class 1 on its way from group 1 to group 2, with all cells copied and not yet taken over. */
